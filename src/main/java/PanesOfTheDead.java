@@ -618,12 +618,13 @@ public final class PanesOfTheDead {
     private int readClaims() {
         reader.open(TEXT_SIGNS);
         boolean more = !text.isEmpty();
-        for (int line = 0; more && reader.demand(line < CLAIMS); line++) {
+        for (int line = 0; more && line < CLAIMS; line++) {
             int kinds = reader.kinds();
             reader.demand(kinds != 0);
             heirs.add(town.panesHiding(kinds));
             more = reader.another();
         }
+        reader.demand(!more);
         return reader.answer(0);
     }
 
@@ -832,10 +833,6 @@ public final class PanesOfTheDead {
         boolean isEmpty() {
             return length == 0;
         }
-
-        int at(int p) {
-            return p >= 0 && p < length ? signs[p] : NO_SIGN;
-        }
     }
 
     /** Goes over THE TEXT from its first sign on; behind the first fault it finds no signs any more. */
@@ -856,7 +853,8 @@ public final class PanesOfTheDead {
         }
 
         int peek() {
-            return fault != NONE || place >= most ? NO_SIGN : text.at(place);
+            boolean over = fault != NONE || place >= most || place >= text.length;
+            return over ? NO_SIGN : text.signs[place];
         }
 
         /** Unless it fits, the sign here is a fault. */
@@ -974,7 +972,6 @@ public final class PanesOfTheDead {
 
         void read(Reader reader) {
             readComparison(reader, 0);
-            reader.demand(reader.peek() == NO_SIGN);
         }
 
         private void emit(int sign) {
@@ -1209,18 +1206,18 @@ public final class PanesOfTheDead {
             return allOf(things);
         }
 
-        /** LINES are written behind those that stand, and count only once the last one is right. */
+        /** LINES are written behind those that stand, and count only once the last one is right and none is too many. */
         int readThings(Reader reader, Moment now) {
             int last = things;
             boolean more = true;
-            while (more && reader.demand(last < THINGS)) {
+            for (; more && last < THINGS; last++) {
                 kind[last] = reader.signFrom('a', KINDS);
                 shame[last] = reader.digit(DIGITS);
                 now.field[last] = readField(reader);
                 now.heading[last] = reader.heading();
-                last++;
                 more = reader.another();
             }
+            reader.demand(!more);
             int answer = reader.answer(last - things);
             things += Math.max(0, answer);
             return answer;
@@ -1229,13 +1226,13 @@ public final class PanesOfTheDead {
         int readPanes(Reader reader, Moment now) {
             int last = panes;
             boolean more = true;
-            while (more && reader.demand(last < PANES)) {
+            for (; more && last < PANES; last++) {
                 limit[last] = reader.digit(DIGITS);
                 hides[last] = reader.kinds();
                 now.home[last] = NONE;
-                last++;
                 more = reader.another();
             }
+            reader.demand(!more);
             int answer = reader.answer(last - panes);
             panes += Math.max(0, answer);
             return answer;
@@ -1244,12 +1241,12 @@ public final class PanesOfTheDead {
         int readRooms(Reader reader) {
             int last = rooms;
             boolean more = true;
-            while (more && reader.demand(last < ROOMS)) {
+            for (; more && last < ROOMS; last++) {
                 place[last] = readField(reader);
                 range[last] = reader.digit(DIGITS);
-                last++;
                 more = reader.another();
             }
+            reader.demand(!more);
             int answer = reader.answer(last - rooms);
             rooms += Math.max(0, answer);
             return answer;

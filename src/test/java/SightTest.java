@@ -75,6 +75,19 @@ public final class SightTest {
         check.due(-2, late.first(0, 0));
         check.due(5, late.first(0, 1));
         check.row(late, 30);
+        PanesOfTheDead latest = walksOfTen();
+        check.due(99, latest.first(0, 0));
+        check.row(latest, 0);
+        Check.text(latest, "t=4").rule();
+        check.due(-2, latest.first(0, 0));
+    }
+
+    /** Two THINGS walk to and fro in ten HOURS; at 3 of a day they are before the ROOM in HOUR 99, at 4 in HOUR 100. */
+    private static PanesOfTheDead walksOfTen() {
+        PanesOfTheDead x = Check.town("15", "a000r;a000r", "9", "000");
+        x.hang(0, 0);
+        Check.text(x, "t=3").rule();
+        return x;
     }
 
     private static void meets() {
@@ -100,6 +113,11 @@ public final class SightTest {
         y.hang(1, 1);
         check.due(0, y.meets(1));
         check.row(y, 0, 3);
+        PanesOfTheDead latest = walksOfTen();
+        check.due(99, latest.meets(0));
+        check.row(latest, 0, 3);
+        Check.text(latest, "t=4").rule();
+        check.due(-2, latest.meets(0));
     }
 
     private static void doubts() {

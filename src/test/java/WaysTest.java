@@ -100,6 +100,14 @@ public final class WaysTest {
         check.due(1, z.slips(0, 1, 0, 0));
         z.hours(3);
         check.due(-2, z.slips(0, 1, 0, 0));
+        // FIELDS 1, 3, 5 are dark at 21, 18, 12 of a day alone: in HOURS 21, 42, 60; an HOUR later, if it is 23 at first
+        PanesOfTheDead w = Check.town("16", "", "7;6;4", "010;030;050");
+        for (int i = 0; i < 3; i++) w.hang(i, i);
+        Check.text(w, "(t=l*3)=0").rule();
+        check.due(60, w.slips(0, 5, 0, 0));
+        w.hours(23);
+        check.due(44, w.slips(0, 4, 0, 0));
+        check.due(-2, w.slips(0, 5, 0, 0));
     }
 
     private static void dark() {
