@@ -1,5 +1,6 @@
 import java.util.Arrays;
 import java.util.NoSuchElementException;
+import java.util.function.ToLongFunction;
 
 /** Counts answers that are not as due. */
 final class Check {
@@ -8,9 +9,25 @@ final class Check {
     private int wrong = 0;
     private int asked = 0;
     private String about = "";
+    private final boolean[] quoted = new boolean[Doc.PROMISES + 1];
 
     void about(String promise) {
         about = promise;
+    }
+
+    /** What follows tests these words of the document; 0: of its Terms. */
+    void words(int promise, String said) {
+        about(promise + ": " + said);
+        yes(Doc.says(promise, said));
+        quoted[promise] = true;
+    }
+
+    /** Each of these promises had words that were tested. */
+    void promisesQuoted(int from, int to) {
+        for (int promise = from; promise <= to; promise++) {
+            about("promise " + promise + " has a test");
+            yes(quoted[promise]);
+        }
     }
 
     void due(long want, long got) {
@@ -51,6 +68,27 @@ final class Check {
         }
         none(() -> x.row(want.length));
         none(() -> x.row(-1));
+    }
+
+    /** A call answers so, and changes nothing: its object goes on as its twin does. */
+    void refused(long want, ToLongFunction<PanesOfTheDead> call) {
+        Twins twins = new Twins();
+        due(want, call.applyAsLong(twins.called));
+        alike(twins);
+    }
+
+    /** A call that reads this text answers so, and changes nothing but that THE TEXT is empty. */
+    void refusedText(long want, String s, ToLongFunction<PanesOfTheDead> call) {
+        Twins twins = new Twins();
+        due(want, call.applyAsLong(text(twins.called, s)));
+        twins.left.end(0);
+        alike(twins);
+    }
+
+    void alike(Twins twins) {
+        String difference = twins.difference();
+        if (!difference.isEmpty()) System.out.println(difference);
+        yes(difference.isEmpty());
     }
 
     private static String place() {
