@@ -5,8 +5,9 @@ import java.util.Random;
 
 /** Long runs of drawn calls: the program must answer each of them as the model does. */
 public final class ModelTest {
-    private static final int RUNS = 4000;
-    private static final int CALLS = 130;
+    private static final int RUNS = 20000;
+    private static final int CALLS = 512;
+    private static final int DEAREST = 120;
     private static final String[] RULES = {
         "", "1", "0", "t<12", "h=0", "(h=0)*(s<l+1)", "s-l", "t/3-k", "k*k*999*999*999-s", "-(-s)+--l", "n>k",
         "(t/2*2=t)*(s<l+5)", "((((k))))", "1/0", "t-5", "(t>3)*(t<9)+(h=1)", "999*999*999*999/-1", "l/s", "-7/2+3",
@@ -81,10 +82,17 @@ public final class ModelTest {
         things();
         panes();
         rooms();
-        for (int i = 0; i < CALLS && right; i++) {
+        while (right && calls.size() + DEAREST + asked() < CALLS) {
             call();
-            if (below(8) == 0 || i == CALLS - 1) all();
+            if (below(8) == 0) counts();
         }
+        all();
+        if (calls.size() > CALLS) throw new IllegalStateException("more calls than an object is used for");
+    }
+
+    /** How many calls all() makes. */
+    private int asked() {
+        return 16 + model.row.size() + 7 * (6 + model.count(2) + model.count(3) + model.count(4));
     }
 
     private void call() {
@@ -369,8 +377,7 @@ public final class ModelTest {
         }
     }
 
-    /** All that can be asked without a change. */
-    private void all() {
+    private void counts() {
         for (int k = -1; k <= 12; k++) {
             int what = k;
             same("count(" + k + ")", () -> program.count(what), () -> model.count(what));
@@ -379,12 +386,23 @@ public final class ModelTest {
             int i = k;
             same("row(" + k + ")", () -> program.row(i), () -> model.row(i));
         }
-        for (int k = -1; k <= 8; k++) {
-            for (int w = -1; w <= 5; w++) {
+    }
+
+    /** All that can be asked without a change. */
+    private void all() {
+        counts();
+        for (int w = -1; w <= 5; w++) {
+            int what = w;
+            for (int k = -1; k <= model.count(2); k++) {
                 int i = k;
-                int what = w;
                 same("thing(" + i + "," + w + ")", () -> program.thing(i, what), () -> model.thing(i, what));
+            }
+            for (int k = -1; k <= model.count(3); k++) {
+                int i = k;
                 same("pane(" + i + "," + w + ")", () -> program.pane(i, what), () -> model.pane(i, what));
+            }
+            for (int k = -1; k <= model.count(4); k++) {
+                int i = k;
                 same("room(" + i + "," + w + ")", () -> program.room(i, what), () -> model.room(i, what));
             }
         }
