@@ -19,6 +19,7 @@ public final class LawsEdgesTest {
         rests();
         years();
         yearsWithout();
+        yearsFull();
         draws();
         check.promisesQuoted(32, 37);
         check.promisesQuoted(39, 41);
@@ -402,6 +403,15 @@ public final class LawsEdgesTest {
         check.row(one, 0, 0);
         check.due(3, one.years(1, 2));
         check.row(one, 0, 1);
+    }
+
+    /** Of seed 0 there are four HOURS first: all ROOMS see all THINGS in each. */
+    private static void yearsFull() {
+        check.words(41, "behind each of these n it is counted how many THINGS each ROOM sees: all together");
+        PanesOfTheDead x = Check.town("11", lines(8, "a000s"), lines(8, "9"), lines(4, "000"));
+        for (int pane = 0; pane < 8; pane++) x.hang(pane, pane % 4);
+        check.due(4 * 4 * 8, x.years(0, 4));
+        check.row(x, 4, 0);
     }
 
     private static void draws() {

@@ -149,6 +149,10 @@ public final class SightEdgesTest {
         check.due(-2, never.meets(0));
         never.hours(1);
         check.due(99, never.meets(0));
+        PanesOfTheDead full = Check.town("24", "a000s;a001s;a002s;a003s;a010s;a011s;a012s;a003d", "9", "009;009;009;009");
+        full.hang(0, 3);
+        check.due(0, full.meets(3));
+        check.row(full, 3, 8 + 128);
         // one goes right, one left: they pass by each other, and meet where one turns
         PanesOfTheDead pass = Check.town("14", "a000r;a003l", "9", "009");
         pass.hang(0, 0);

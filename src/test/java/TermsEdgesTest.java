@@ -239,6 +239,8 @@ public final class TermsEdgesTest {
         words("THE RULE is a text of at most 40 signs");
         lets(true, "0+".repeat(19) + "01");
         fault(40, "0+".repeat(20) + "1");
+        lets(true, "-k+".repeat(13) + "k");
+        lets(false, "-k*".repeat(13) + "0");
         words("(at first none: (h=0)*(s<l+1))");
         PanesOfTheDead x = Check.town("11", "a400s;a500s;d000s;a000s;g400s", "4dg", "");
         for (String rule : new String[] {"", "(h=0)*(s<l+1)", ""}) {
@@ -420,6 +422,14 @@ public final class TermsEdgesTest {
         PanesOfTheDead x = Check.town("66", "a000s;a054s;a045s;a055s;a001s;a010s", "9;9;9;9", "000;009;559;001");
         int[] near = {1, 55, 62, 49};
         for (int room = 0; room < 4; room++) check.due(near[room], x.room(room, 4));
+        PanesOfTheDead tall = Check.town("61", "a000s;a030s;a050s", "", "002;503;205");
+        check.due(1, tall.room(0, 4));
+        check.due(6, tall.room(1, 4));
+        check.due(7, tall.room(2, 4));
+        PanesOfTheDead wide = Check.town("16", "a000s;a003s;a005s", "", "002;053;025");
+        check.due(1, wide.room(0, 4));
+        check.due(6, wide.room(1, 4));
+        check.due(7, wide.room(2, 4));
         words("A ROOM without PANES sees nothing");
         for (int room = 0; room < 4; room++) check.due(0, x.room(room, 3));
         for (int thing = 0; thing < 6; thing++) check.due(0, x.thing(thing, 4));
@@ -456,6 +466,12 @@ public final class TermsEdgesTest {
         PanesOfTheDead alone = Check.town("11", "a000u;a000r;a000d;a000l", "", "");
         walked(alone, new int[] {0, 0, 0, 0}, new int[] {2, 3, 0, 1});
         walked(alone, new int[] {0, 0, 0, 0}, new int[] {0, 1, 2, 3});
+        PanesOfTheDead tall = Check.town("61", "a000u;a010u;a050d;a040d;a030l;a030r", "", "");
+        walked(tall, new int[] {0, 0, 5, 5, 3, 3}, new int[] {2, 0, 0, 2, 1, 3});
+        walked(tall, new int[] {1, 0, 4, 5, 3, 3}, new int[] {2, 2, 0, 0, 3, 1});
+        PanesOfTheDead wide = Check.town("16", "a000l;a001l;a005r;a004r;a003u;a003d", "", "");
+        walked(wide, new int[] {0, 0, 5, 5, 3, 3}, new int[] {1, 3, 3, 1, 2, 0});
+        walked(wide, new int[] {1, 0, 4, 5, 3, 3}, new int[] {1, 1, 3, 3, 0, 2});
         words("at its HEADING (4: stays)");
         PanesOfTheDead still = Check.town("33", "a000s;a011s;a022s", "", "");
         walked(still, new int[] {0, 4, 8}, new int[] {4, 4, 4});
